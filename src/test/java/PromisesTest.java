@@ -470,6 +470,10 @@ public final class PromisesTest {
         due("rank: of the gone", s.rank(4, 0), BAD);
         due("rank: without the gone", s.rank(5, 0), 2);
         due("rank: without the gone", s.rank(9, 1), 2);
+        put(s, 0, 0, 0, 7, 7);
+        due("rank: box 0 first among equals", s.rank(0, 1), 1);
+        due("rank: after box 0 along x", s.rank(9, 0), 1);
+        due("rank: after box 0 along y", s.rank(9, 1), 3);
     }
 
     private static void promise15Within() {
