@@ -24,6 +24,10 @@ final class Checks {
         }
     }
 
+    int made() {
+        return made;
+    }
+
     int wrong() {
         return wrong;
     }
